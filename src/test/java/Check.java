@@ -1,0 +1,69 @@
+/** What the tests share: texts put on a tape, and answers held against those that are due. */
+final class Check {
+    private int asked = 0;
+    private int wrong = 0;
+    private String about = "";
+
+    /** What the next answers are about, told with each that is wrong. */
+    void about(String what) {
+        about = what;
+    }
+
+    void due(String call, long got, long want) {
+        asked++;
+        if (got != want) {
+            wrong++;
+            if (wrong <= 40) {
+                System.out.println(about + ": " + call + " answered " + got + ", due is " + want);
+            }
+        }
+    }
+
+    void due(String call, boolean got, boolean want) {
+        due(call, got ? 1 : 0, want ? 1 : 0);
+    }
+
+    int wrong() {
+        return wrong;
+    }
+
+    void end() {
+        System.out.println(asked + " answers asked, " + wrong + " not as due");
+        if (wrong != 0 || asked == 0) {
+            System.exit(1);
+        }
+    }
+
+    /** Puts a text behind the tape, by feeds of twenty bytes and one back. */
+    static void put(SeaHair hair, String text) {
+        int size = (text.length() + 19) / 20 * 20;
+        for (int at = 0; at < size; at += 20) {
+            hair.feed(four(text, at), four(text, at + 4), four(text, at + 8), four(text, at + 12), four(text, at + 16));
+        }
+        hair.back(size - text.length());
+    }
+
+    static int four(String text, int at) {
+        int word = 0;
+        for (int i = at; i < at + 4; i++) {
+            word = word << 8 | (i < text.length() ? text.charAt(i) & 255 : 32);
+        }
+        return word;
+    }
+
+    /** A new object that has read the text, which is to have no FAULT. */
+    SeaHair read(String text) {
+        SeaHair hair = new SeaHair();
+        put(hair, text);
+        due("read() of " + text, hair.read(), 0);
+        return hair;
+    }
+
+    /** A text's FAULT and its place, read by a new object. */
+    void fault(String text, int number, int place) {
+        SeaHair hair = new SeaHair();
+        put(hair, text);
+        due("read() of " + text, hair.read(), number);
+        due("place() of " + text, hair.place(), place);
+    }
+}
