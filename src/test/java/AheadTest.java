@@ -40,6 +40,17 @@ final class AheadTest {
         CHECK.due("then(0, 0, 3)", hair.then(0, 0, 3), -1);
         CHECK.due("then(0, 0, -1)", hair.then(0, 0, -1), -1);
 
+        hair = CHECK.read("mermaid m 9 9 0 0;person o 1 1 50;person p 5 2 3;person q 6 1 3;strand m p 4;strand m q 4;");
+        CHECK.due("then(1, 2, 0)", hair.then(1, 2, 0), 7);
+        CHECK.due("then(1, 2, 1)", hair.then(1, 2, 1), 4);
+        CHECK.due("then(2, 2, 0)", hair.then(2, 2, 0), 8);
+        CHECK.due("then(2, 3, 1)", hair.then(2, 3, 1), 4);
+        CHECK.due("then(1, 3, 2)", hair.then(1, 3, 2), 1);
+        CHECK.due("then(2, 3, 2)", hair.then(2, 3, 2), 0);
+        CHECK.due("turns(0, 9)", hair.turns(0, 9), 0);
+        CHECK.due("turns(1, 9)", hair.turns(1, 9), 3);
+        CHECK.due("turns(2, 9)", hair.turns(2, 9), 4);
+
         CHECK.about("IN n MONTHS there are STORMS, and it comes as it was told");
         hair = CHECK.read("person a 0 0 1;person b 1 0 1;person c 2 0 1;storm = 7;seed 77;");
         hair.months(3);
@@ -150,7 +161,12 @@ final class AheadTest {
         for (int i = 0; i < steps.length; i++) {
             CHECK.due("again(0) of " + steps[i], CHECK.read("mermaid m " + steps[i] + ";").again(0), due[i]);
         }
-        SeaHair hair = CHECK.read("mermaid m 0 0 1 1;");
+        SeaHair hair = CHECK.read("mermaid a 3 7 0 0;mermaid b 4 6 2 0;mermaid c 5 5 0 3;mermaid d 9 1 -1 1;");
+        CHECK.due("again(0)", hair.again(0), 1);
+        CHECK.due("again(1)", hair.again(1), 9);
+        CHECK.due("again(2)", hair.again(2), 6);
+        CHECK.due("again(3)", hair.again(3), -2);
+        hair = CHECK.read("mermaid m 0 0 1 1;");
         CHECK.due("again(1)", hair.again(1), -1);
         CHECK.due("again(-1)", hair.again(-1), -1);
         hair.die(0);
@@ -207,6 +223,9 @@ final class AheadTest {
         hair = CHECK.read("mermaid m 5 9 0 0;person p 5 4 3;strand m p 1;strand m p 2;strand m p 2;");
         CHECK.due("of alike ones the first", hair.cutBest(), 1);
         CHECK.due("new", new SeaHair().cutBest(), -2);
+        hair = CHECK.read("mermaid m 5 9 0 0;person p 5 4 3;strand m p 4;");
+        CHECK.due("strand 0", hair.cutBest(), 0);
+        CHECK.due("to nobody", hair.give(0), -2);
     }
 
     private static void give() {
@@ -221,6 +240,10 @@ final class AheadTest {
         CHECK.due("it is cut", hair.give(0), -2);
         hair = CHECK.read("mermaid m 5 9 0 0;person p 5 4 3;person q 1 1 3;strand m p 4;");
         CHECK.due("to q, who holds out longer", hair.give(0), 1);
+        hair = CHECK.read("mermaid m 5 9 0 0;person p 5 1 8;person q 5 4 3;strand m p 1;strand m q 2;strand m q 2;");
+        CHECK.due("to person 0", hair.give(1), 0);
+        CHECK.due("to person 0", hair.give(2), 0);
+        CHECK.due("not by strand 0", hair.give(0), -2);
         hair = CHECK.read("mermaid m 5 9 0 0;person r 1 5 99;person p 5 3 3;person q 1 1 9;strand m p 4;");
         CHECK.due("first(1)", hair.first(1), 0);
         CHECK.due("nobody holds r", hair.give(0), -2);

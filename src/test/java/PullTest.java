@@ -82,6 +82,13 @@ final class PullTest {
         hair.cut(1);
         hair.cut(2);
         CHECK.due("all are cut", hair.strongest(0, 1), -2);
+        hair = CHECK.read("mermaid m 9 0 0 0;mermaid n 0 9 0 0;person o 2 2 9;person p 4 3 9;person q 7 4 9;strand m p 1;strand n p 1;"
+            + "strand m q 1;strand n q 1;pull = far * 10;");
+        CHECK.due("far 6 to n", hair.strongest(1, 0), 1);
+        CHECK.due("far 6 to n", hair.strongest(1, 1), 60);
+        CHECK.due("far 7 to n", hair.strongest(2, 0), 3);
+        CHECK.due("far 7 to n", hair.strongest(2, 1), 70);
+        CHECK.due("o wears none", hair.strongest(0, 1), -2);
         hair = CHECK.read("mermaid m 4 9 0 0;person p 4 4 1;strand m p 7;");
         hair.months(1);
         CHECK.due("OFF, it pulls not", hair.strongest(0, 0), 0);
@@ -146,6 +153,15 @@ final class PullTest {
         for (int[] w : wrong) {
             CHECK.due("safe(" + w[0] + ", " + w[1] + ")", hair.safe(w[0], w[1]), -1);
         }
+        hair = CHECK.read("mermaid m 9 9 0 0;person o 0 0 1;person p 3 2 9;person q 6 4 9;strand m p 3;strand m q 3;"
+            + "stands = (across + down) / 3 * 9;");
+        CHECK.due("nothing pulls o", hair.safe(0, 1), 0);
+        CHECK.due("rows of 7, 8, 9, 10, 10", hair.safe(1, 0), 44);
+        CHECK.due("here, for 5 by 3 is 1", hair.safe(1, 1), 23);
+        CHECK.due("here", hair.safe(2, 1), 46);
+        hair = CHECK.read("mermaid m 9 9 0 0;person o 0 0 1;person p 3 3 9;person q 6 4 9;strand m p 3;strand m q 3;"
+            + "stands = (down / 2 - 1) * 9 - across + 4;");
+        CHECK.due("row 4 is the nearest, its lowest X that is as near", hair.safe(1, 1), 42);
         hair = CHECK.read("mermaid m 4 0 0 0;person p 4 2 4;strand m p 5;stands = 0;pull = if far < 3 then 0 else 9;");
         CHECK.due("no farther than 2", hair.safe(0, 0), 15);
         CHECK.due("here", hair.safe(0, 1), 24);

@@ -10,6 +10,7 @@ final class SeaTest {
         mirrors();
         people();
         strands();
+        moons();
         lawVars();
         lawArithmetic();
         lawIfs();
@@ -114,7 +115,18 @@ final class SeaTest {
         CHECK.due("far 1: person(0, 4)", hair.person(0, 4), 50);
     }
 
-    /** What a LAW of one VAR alone comes to for strand 1 of person 1 in month 5. */
+    private static void moons() {
+        CHECK.about("the moon");
+        SeaHair hair = CHECK.read("mermaid m 9 5 0 0;person p 4 3 90;strand m p 2;pull = moon + 10;price = moon;");
+        for (int month = 0; month < 10; month++) {
+            CHECK.due("count(4)", hair.count(4), month % 4);
+            CHECK.due("PULL", hair.strand(0, 4), month % 4 + 10);
+            CHECK.due("PRICE", hair.strand(0, 5), month % 4);
+            hair.months(1);
+        }
+    }
+
+    /** What a LAW of one VAR comes to for strand 1 of person 1 in month 5. */
     private static void var(String var, int pull, int stands, int price, int storm) {
         String law = " = " + var + " * 10 + 1;";
         SeaHair hair = CHECK.read("mermaid n 0 0 0 0;mermaid m 9 5 0 0;person o 7 7 70;person p 4 3 6;strand n o 9;strand m p 2;strand n p 8;"
@@ -165,6 +177,11 @@ final class SeaTest {
     }
 
     private static void lawIfs() {
+        CHECK.about("as much as may wait within one another");
+        CHECK.due("deep", price("1+2*(1+2*(1+2*(1+2*(1+2*(1+2*(1+2*3))))))"), 511);
+        CHECK.due("to the right", price("900-(800-(700-(600-(500-(400-300*2)))))"), 900);
+        CHECK.due("long", price("1" + "+2*1".repeat(90)), 181);
+        CHECK.due("399 TOKENS of a LAW", CHECK.read("storm=0" + "+1".repeat(198) + ";").count(0), 0);
         CHECK.about("ifs of a LAW");
         CHECK.due("holds", price("if 1 < 2 then 3 else 4"), 3);
         CHECK.due("alike", price("if 2 < 2 then 3 else 4"), 4);
@@ -312,6 +329,18 @@ final class SeaTest {
         CHECK.due("all are OFF", hair.count(5), 7);
         hair.months(5);
         CHECK.due("who is OFF stays", hair.person(0, 1), 5);
+        hair = CHECK.read("mermaid m 9 9 0 0;mermaid n 0 0 0 0;person a 4 4 50;person b 3 2 1;person c 6 3 1;person d 7 1 60;"
+            + "strand n b 9;strand m c 9;strand m d 9;");
+        CHECK.due("who would be moved", hair.count(13), 6);
+        hair.months(1);
+        int[][] due = {{4, 4}, {2, 1}, {7, 4}, {7, 1}};
+        for (int p = 0; p < 4; p++) {
+            CHECK.due("person(" + p + ", 0)", hair.person(p, 0), due[p][0]);
+            CHECK.due("person(" + p + ", 1)", hair.person(p, 1), due[p][1]);
+        }
+        CHECK.due("who would be moved", hair.count(13), 6);
+        hair.months(1);
+        CHECK.due("c is OFF", hair.count(5), 4);
         hair = CHECK.read("mermaid m 5 9 0 0;person p 5 8 1;strand m p 9;pier 9;");
         hair.months(60);
         CHECK.due("none is below row 9", hair.count(5), 0);

@@ -126,6 +126,10 @@ final class TextTest {
         CHECK.fault("mermaid abcdefgh 1 1 1 1;", 0, -1);
         CHECK.fault("mermaid abcdefghi 1 1 1 1;", 1, 8);
         CHECK.fault("mermaid m1 1 1 1;", 0, -1);
+        CHECK.fault("mermaid az 1 1 1 1;person z 1 1 1;person `a 1 1 1;", 1, 41);
+        CHECK.fault("mermaid az 1 1 1 1;person z 1 1 1;person {a 1 1 1;", 1, 41);
+        CHECK.fault("pier /1;", 1, 5);
+        CHECK.fault("pier :1;", 1, 5);
         CHECK.fault("seed 0000;", 0, -1);
         CHECK.fault("seed 9999;", 0, -1);
         CHECK.fault("seed 00000;", 1, 5);
@@ -304,6 +308,27 @@ final class TextTest {
         CHECK.due("safe(0, 0) by pier 4", hair.safe(0, 0), 50);
         CHECK.due("read() of an empty tape", hair.read(), 0);
         CHECK.due("count(1)", hair.count(1), 0);
+
+        CHECK.about("nothing is left of a text two reads ago");
+        hair = CHECK.read("person a 0 0 1;person b 1 0 1;pull=8;stands=9;price=3;storm=100;seed 7;pier 0;mermaid m 9 9 1 1;"
+            + "strand m b 4;");
+        hair.read();
+        Check.put(hair, "mermaid m 5 5 1 1;person p 2 2 7;strand m p 3;person q 3 2 7;");
+        CHECK.due("read()", hair.read(), 0);
+        CHECK.due("PULL", hair.strand(0, 4), 3);
+        CHECK.due("STANDS", hair.person(0, 6), 7);
+        CHECK.due("PRICE", hair.strand(0, 5), 3);
+        CHECK.due("STORM", hair.person(0, 7), 0);
+        CHECK.due("PIER", hair.safe(0, 0), 50);
+        CHECK.due("who wears it", hair.strand(0, 1), 0);
+        hair.read();
+        hair.feed(0x73746f72, 0x6d3d3530, 0x3b706572, 0x736f6e20, 0x70203120);
+        hair.feed(0x3120313b, 0x20202020, 0x20202020, 0x20202020, 0x20202020);
+        CHECK.due("read() of storm=50", hair.read(), 0);
+        SeaHair other = CHECK.read("storm=50;person p 1 1 1;seed 0;");
+        for (int n = 0; n < 12; n++) {
+            CHECK.due("SEED 0, in " + n, hair.then(0, n, 2), other.then(0, n, 2));
+        }
     }
 
     private static void lastOneCounts() {
