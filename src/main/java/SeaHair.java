@@ -123,9 +123,9 @@ public final class SeaHair {
 
     public SeaHair() {
         tape = new byte[MOST_BYTES];
-        reader = new Reader();
         book = new Book();
         spareBook = new Book();
+        reader = new Reader(tape, spareBook);
         sea = new Sea();
         trialSea = new Sea();
         now = new Waters(book, sea);
@@ -171,7 +171,7 @@ public final class SeaHair {
     }
 
     public int read() {
-        int fault = reader.readText(tape, tapeLength, spareBook);
+        int fault = reader.readText(tapeLength, spareBook);
         tapeLength = 0;
         if (fault == 0) {
             goOnFromSpareBook();
@@ -337,7 +337,7 @@ public final class SeaHair {
             history.keep(sea);
         }
         for (int gone = 0; gone < n; gone++) {
-            now.goMonth(true, book.seed);
+            now.goMonth(0, book.people, true);
         }
         return sea.month;
     }
@@ -366,18 +366,14 @@ public final class SeaHair {
 
     // ---- what would be
 
-    private void tryMonths(int n, boolean storms, int seed) {
-        trialSea.copyFrom(sea);
-        for (int gone = 0; gone < n; gone++) {
-            trial.goMonth(storms, seed);
-        }
-    }
-
     public int then(int person, int n, int what) {
         if (!isPerson(person) || !isWithin(n, 0, MOST_MONTHS) || !isWithin(what, 0, 2)) {
             return NONE;
         }
-        tryMonths(n, true, book.seed);
+        trialSea.copyFrom(sea);
+        for (int gone = 0; gone < n; gone++) {
+            trial.goMonth(person, person + 1, true);
+        }
         if (what == 0) {
             return trialSea.row[PERSON_X + person];
         }
@@ -407,7 +403,7 @@ public final class SeaHair {
         if (behind == NEVER) {
             return NOT;
         }
-        return what == 0 ? behind : Integer.numberOfTrailingZeros(trialSea.off & ~sea.off);
+        return what == 0 ? behind : lowestOf(trialSea.off & ~sea.off);
     }
 
     public int near(int mermaid, int person, int d) {
@@ -469,7 +465,7 @@ public final class SeaHair {
             if (trial.isMovedAt(person, x, y)) {
                 moved++;
             }
-            trial.goMonth(false, book.seed);
+            trial.goMonth(person, person + 1, false);
         }
         return moved;
     }
@@ -478,7 +474,10 @@ public final class SeaHair {
         if (!isWithin(n, 0, MOST_MONTHS)) {
             return NONE;
         }
-        tryMonths(n, false, book.seed);
+        trialSea.copyFrom(sea);
+        for (int gone = 0; gone < n; gone++) {
+            trial.goMonth(0, book.people, false);
+        }
         return trial.pricesOfAll();
     }
 
@@ -486,22 +485,24 @@ public final class SeaHair {
         if (!isPerson(person) || !isWithin(n, 0, MOST_MONTHS) || !isWithin(s, 1, MOST_SEEDS)) {
             return NONE;
         }
-        int stood = 0;
-        for (int more = 0; more < s; more++) {
-            tryMonths(n, true, book.seed + more);
-            if (!trialSea.isOff(person)) {
-                stood++;
-            }
+        // Until one is OFF, STORMS change nothing of where one goes: one course does for all SEEDS.
+        int drowned = 0;
+        trialSea.copyFrom(sea);
+        for (int gone = 0; gone < n; gone++) {
+            drowned |= trial.seedsThatDrown(person, s);
+            trial.goMonth(person, person + 1, false);
         }
-        return stood;
+        return trialSea.isOff(person) ? 0 : s - Integer.bitCount(drowned);
     }
 
     public int cutBest() {
         trialSea.copyFrom(sea);
         int latest = trial.goUntilFirst();
+        int fallen = trialSea.off & ~sea.off;
         int best = NOT;
         for (int strand = 0; strand < book.strands && latest < NEVER; strand++) {
-            if (!sea.isCut(strand)) {
+            // A cut helps the wearer alone: if somebody else falls as early, it is no later.
+            if (!sea.isCut(strand) && fallen == 1 << sea.row[WEARER + strand]) {
                 trialSea.copyFrom(sea);
                 trialSea.cutOnes |= 1 << strand;
                 int behind = trial.goUntilFirst();
@@ -520,9 +521,11 @@ public final class SeaHair {
         }
         trialSea.copyFrom(sea);
         int latest = trial.goUntilFirst();
+        int fallen = trialSea.off & ~sea.off & ~(1 << sea.row[WEARER + strand]);
         int best = NOT;
         for (int person = 0; person < book.people && latest < NEVER; person++) {
-            if (sea.mayBeHanded(strand, person)) {
+            // It helps who had it and who gets it alone: if somebody else falls as early, it is no later.
+            if (sea.mayBeHanded(strand, person) && (fallen & ~(1 << person)) == 0) {
                 trialSea.copyFrom(sea);
                 trialSea.row[WEARER + strand] = person;
                 int behind = trial.goUntilFirst();
@@ -683,6 +686,23 @@ public final class SeaHair {
         return Math.max(Math.abs(x - otherX), Math.abs(y - otherY));
     }
 
+    /** -1, 0 or 1: whether the way goes to less, nowhere, or to more. */
+    private static int wayTo(int to, int from) {
+        if (to == from) {
+            return 0;
+        }
+        return to < from ? -1 : 1;
+    }
+
+    private static int lowestOf(int people) {
+        for (int person = 0; person < MOST_PEOPLE; person++) {
+            if ((people >> person & 1) != 0) {
+                return person;
+            }
+        }
+        return NONE;
+    }
+
     private static int heldTo(int most, int number) {
         return Math.max(0, Math.min(most, number));
     }
@@ -729,7 +749,7 @@ public final class SeaHair {
 
         /** Whether it counts among what a PERSON wears: a cut one does not. */
         boolean isWorn(int strand, int person) {
-            return row[WEARER + strand] == person && !isCut(strand);
+            return row[WEARER + strand] == person && (cutOnes >> strand & 1) == 0;
         }
 
         boolean mayBeHanded(int strand, int person) {
@@ -1008,11 +1028,11 @@ public final class SeaHair {
         }
 
         int wayAcross(int strand, int x) {
-            return Integer.signum(sea.row[MERMAID_X + book.whose[strand]] - x);
+            return wayTo(sea.row[MERMAID_X + book.whose[strand]], x);
         }
 
         int wayDown(int strand, int y) {
-            return Integer.signum(sea.row[MERMAID_Y + book.whose[strand]] - y);
+            return wayTo(sea.row[MERMAID_Y + book.whose[strand]], y);
         }
 
         /** By how much all that a PERSON wears would pull there, into feltAcross and feltDown. */
@@ -1074,15 +1094,16 @@ public final class SeaHair {
         }
 
         /**
-         * One PERSON after the other may go, and the MERMAIDS last: where a PERSON is matters to
-         * nobody else, so each still goes by how it was as the MONTH began.
+         * A MONTH in which of the PEOPLE those go who are asked for. Where a PERSON is matters to
+         * nobody else: so the others can be left out, and one may go after the other, the MERMAIDS
+         * last, and still each goes by how it was as the MONTH began.
          */
-        void goMonth(boolean storms, int seed) {
-            for (int person = 0; person < book.people; person++) {
+        void goMonth(int firstPerson, int behindLast, boolean storms) {
+            for (int person = firstPerson; person < behindLast; person++) {
                 if (!sea.isOff(person)) {
                     int x = sea.row[PERSON_X + person];
                     int y = sea.row[PERSON_Y + person];
-                    boolean drowns = storms && lotOf100(seed, 16 * sea.month + person) < stormOf(person);
+                    boolean drowns = storms && seedsThatDrown(person, 1) != 0;
                     feel(person, x, y);
                     int stands = standsAt(person, x, y);
                     int toY = gone(y, feltDown, stands);
@@ -1100,7 +1121,19 @@ public final class SeaHair {
         }
 
         private static int gone(int from, int pulled, int stands) {
-            return Math.abs(pulled) > stands ? heldTo(LAST, from + Integer.signum(pulled)) : from;
+            return Math.abs(pulled) > stands ? heldTo(LAST, from + wayTo(pulled, 0)) : from;
+        }
+
+        /** By which of so many SEEDS, from the text's on, a STORM drowns a PERSON this month, as bits. */
+        int seedsThatDrown(int person, int seeds) {
+            int storm = stormOf(person);
+            int drowning = 0;
+            for (int more = 0; more < seeds; more++) {
+                if (lotOf100(book.seed + more, 16 * sea.month + person) < storm) {
+                    drowning |= 1 << more;
+                }
+            }
+            return drowning;
         }
 
         private static int lotOf100(int seed, int which) {
@@ -1117,7 +1150,7 @@ public final class SeaHair {
         int goUntilFirst() {
             int offBefore = sea.off;
             for (int behind = 1; behind < NEVER; behind++) {
-                goMonth(false, 0);
+                goMonth(0, book.people, false);
                 if (sea.off != offBefore) {
                     return behind;
                 }
@@ -1267,8 +1300,7 @@ public final class SeaHair {
 
         private boolean fits(int place, int k) {
             for (int i = 0; i < k && i < size; i++) {
-                if (Integer.signum(place % SIDE - x[i]) != across[i]
-                        || Integer.signum(place / SIDE - y[i]) != down[i]) {
+                if (wayTo(place % SIDE, x[i]) != across[i] || wayTo(place / SIDE, y[i]) != down[i]) {
                     return false;
                 }
             }
@@ -1302,8 +1334,7 @@ public final class SeaHair {
             int worst = 0;
             for (int place = 0; place < PLACES; place++) {
                 if (open[place]) {
-                    int answer = 4 + Integer.signum(place % SIDE - held % SIDE)
-                            + 3 * Integer.signum(place / SIDE - held / SIDE);
+                    int answer = 4 + wayTo(place % SIDE, held % SIDE) + 3 * wayTo(place / SIDE, held / SIDE);
                     answers[answer]++;
                     worst = Math.max(worst, answers[answer]);
                 }
@@ -1317,18 +1348,18 @@ public final class SeaHair {
         final int[] kind;
         final int[] place;
         final long[] value;
-        private byte[] bytes;
+        private final byte[] bytes;
         private int bytesSize;
 
-        Tokens() {
+        Tokens(byte[] tape) {
+            bytes = tape;
             kind = new int[MOST_TOKENS + 1];
             place = new int[MOST_TOKENS + 1];
             value = new long[MOST_TOKENS + 1];
         }
 
-        void split(byte[] text, int size) {
-            bytes = text;
-            bytesSize = Math.min(size, text.length);
+        void split(int size) {
+            bytesSize = Math.min(size, bytes.length);
             int from = 0;
             for (int i = 0; i <= MOST_TOKENS; i++) {
                 from = behindBlanks(from);
@@ -1429,13 +1460,14 @@ public final class SeaHair {
         private int meaningFault;
         private int meaningFaultAt;
 
-        Reader() {
-            tokens = new Tokens();
+        Reader(byte[] tape, Book into) {
+            tokens = new Tokens(tape);
+            book = into;
             faultAt = NONE;
         }
 
-        int readText(byte[] text, int size, Book into) {
-            tokens.split(text, size);
+        int readText(int size, Book into) {
+            tokens.split(size);
             book = into;
             book.clearAll();
             next = 0;

@@ -127,8 +127,8 @@ final class RulesTest {
         need("no method reference", !bare.contains("::"));
         need("no text joined by +", !Pattern.compile("\"\\s*\\+|\\+\\s*\"").matcher(bare).find());
         Matcher called = Pattern.compile("\\b(Math|Integer|Long|Arrays|System)\\.(\\w+)").matcher(bare);
-        Set<String> free = Set.of("Math.max", "Math.min", "Math.abs", "Integer.bitCount", "Integer.signum",
-            "Integer.numberOfTrailingZeros", "Arrays.fill", "System.arraycopy");
+        Set<String> free = Set.of("Math.max", "Math.min", "Math.abs", "Integer.bitCount",
+            "Arrays.fill", "System.arraycopy");
         while (called.find()) {
             need(called.group() + " is of the library", free.contains(called.group()));
         }
