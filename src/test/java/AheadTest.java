@@ -253,14 +253,6 @@ final class AheadTest {
         CHECK.due("it can be no later", hair.give(0), -2);
     }
 
-    private static int lot(int seed, int which) {
-        int h = (seed ^ 135) * 1103515245 + 12345;
-        h ^= h >>> 15;
-        h = (h ^ which) * 1103515245 + 12345;
-        h ^= h >>> 15;
-        return (h >>> 1) % 100;
-    }
-
     private static void year() {
         CHECK.about("promise 30");
         SeaHair hair = CHECK.read("person a 0 0 1;person b 0 0 1;storm = 5;seed 9990;");
@@ -270,7 +262,7 @@ final class AheadTest {
                 for (int seed = 9990; seed < 9990 + s; seed++) {
                     boolean off = false;
                     for (int month = 0; month < n; month++) {
-                        off |= lot(seed, 16 * month + 1) < 5;
+                        off |= Check.lot(seed, 16 * month + 1) < 5;
                     }
                     stood += off ? 0 : 1;
                 }

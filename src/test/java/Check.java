@@ -66,4 +66,13 @@ final class Check {
         due("read() of " + text, hair.read(), number);
         due("place() of " + text, hair.place(), place);
     }
+
+    /** LOT 100 of a SEED and a which. */
+    static int lot(int seed, int which) {
+        int h = (seed ^ 135) * 1103515245 + 12345;
+        h ^= h >>> 15;
+        h = (h ^ which) * 1103515245 + 12345;
+        h ^= h >>> 15;
+        return (h >>> 1) % 100;
+    }
 }

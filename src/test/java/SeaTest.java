@@ -347,15 +347,6 @@ final class SeaTest {
         CHECK.due("she is reached", hair.person(0, 1), 9);
     }
 
-    /** LOT 100, told once more. */
-    private static int lot(int seed, int which) {
-        int h = (seed ^ 135) * 1103515245 + 12345;
-        h ^= h >>> 15;
-        h = (h ^ which) * 1103515245 + 12345;
-        h ^= h >>> 15;
-        return (h >>> 1) % 100;
-    }
-
     private static void storms() {
         CHECK.about("STORMS by LOT");
         for (int seed = 0; seed < 10000; seed += 1111) {
@@ -364,7 +355,7 @@ final class SeaTest {
             int off = 0;
             for (int month = 0; month < 20; month++) {
                 for (int p = 0; p < 6; p++) {
-                    off |= lot(seed, 16 * month + p) < 6 ? 1 << p : 0;
+                    off |= Check.lot(seed, 16 * month + p) < 6 ? 1 << p : 0;
                 }
                 hair.months(1);
                 CHECK.due("OFF behind month " + month + " of seed " + seed, hair.count(5), off);
