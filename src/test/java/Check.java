@@ -1,3 +1,5 @@
+import java.util.List;
+
 /** What the tests share: texts put on a tape, and answers held against those that are due. */
 final class Check {
     private int asked = 0;
@@ -14,13 +16,23 @@ final class Check {
         if (got != want) {
             wrong++;
             if (wrong <= 40) {
-                System.out.println(about + ": " + call + " answered " + got + ", due is " + want);
+                System.out.println(about + ": " + brief(call) + " answered " + got + ", due is " + want);
             }
         }
     }
 
+    /** A long text with its middle left out, so that a wrong answer can be read. */
+    private static String brief(String call) {
+        int size = call.length();
+        return size <= 400 ? call : call.substring(0, 200) + " .. " + (size - 400) + " more .. " + call.substring(size - 200);
+    }
+
     void due(String call, boolean got, boolean want) {
         due(call, got ? 1 : 0, want ? 1 : 0);
+    }
+
+    int asked() {
+        return asked;
     }
 
     int wrong() {
@@ -65,6 +77,22 @@ final class Check {
         put(hair, text);
         due("read() of " + text, hair.read(), number);
         due("place() of " + text, hair.place(), place);
+    }
+
+    /** Two objects are alike in all that they answer; both are used up by it. */
+    void same(String call, SeaHair one, SeaHair other) {
+        List<String> left = Seen.of(one);
+        List<String> right = Seen.of(other);
+        due(call + ": as many answers", left.size(), right.size());
+        for (int i = 0; i < Math.min(left.size(), right.size()); i++) {
+            due(call + ": " + left.get(i) + ", but " + right.get(i), left.get(i).equals(right.get(i)), true);
+        }
+    }
+
+    /** Where one is who begins at 0 .. 9 and swims between 0 and 9, turning at both: unfolded, a ring of 18. */
+    static int swum(int from, int step, int months) {
+        int ring = Math.floorMod(from + step * months, 18);
+        return ring <= 9 ? ring : 18 - ring;
     }
 
     /** LOT 100 of a SEED and a which. */

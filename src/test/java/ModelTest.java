@@ -19,7 +19,7 @@ final class ModelTest {
         for (int i = 0; i < 6000 * more; i++) {
             test.readOnce(i);
         }
-        for (int i = 0; i < 60 * more; i++) {
+        for (int i = 0; i < 80 * more; i++) {
             test.run(i);
         }
         test.check.end();
@@ -57,7 +57,9 @@ final class ModelTest {
         hair = new SeaHair();
         model = new Model();
         StringBuilder told = new StringBuilder("run " + number);
-        for (int call = 0; call < 512; call++) {
+        int askedBefore = check.asked();
+        // each call is one answer asked; the last ones may be a text's, of 102 calls, and what is asked behind it
+        for (int call = 0; check.asked() - askedBefore < 512 - 105; call++) {
             if (call == 1 || chance.nextInt(150) == 0) {
                 String text = call > 1 && chance.nextInt(3) == 0 ? texts.spoilt() : texts.right();
                 told.append("\n  [").append(text).append(']');
